@@ -623,8 +623,8 @@ public final class SearchEngine {
         private final long[] terms;
         private final int[] counts;
 
-        Vocabulary(long[] row) {
-            long[] sorted = row.clone();
+        /** Of the terms of a row, which is sorted by this; 0 is no term. */
+        Vocabulary(long[] sorted) {
             sort(sorted);
             int different = 0;
             for (int i = 0; i < sorted.length; i++) {
@@ -720,7 +720,7 @@ public final class SearchEngine {
                 lengths[token] = at - start;
                 terms[token] = speller.termOf(bytes, start, at - start);
             }
-            vocabulary = new Vocabulary(terms);
+            vocabulary = new Vocabulary(terms.clone());
         }
 
         private static int countTokens(byte[] bytes, int from, int to) {

@@ -16,6 +16,7 @@ public final class PromisesTest {
         delete();
         refresh();
         refreshMerges();
+        refreshKeepsManySegments();
         openAndClose();
         searchOfAView();
         wordScores();
@@ -85,6 +86,11 @@ public final class PromisesTest {
             }
             Calls.dueText("how " + hows[h], got.toString(), due[h]);
         }
+        SearchEngine signs = Calls.engineOf(0, "@AZ[`az{/09:", "AZ az 09 bY Z");
+        Calls.due("great and small letters", Calls.frequency(signs, 0, BODY, "aZ"), 2);
+        Calls.due("digits", Calls.frequency(signs, 0, BODY, "09"), 2);
+        Calls.ask(signs, 0, "09");
+        Calls.due("tokens", signs.hit(0, 4), 3);
         SearchEngine all = Calls.engineOf(2, "a an and in is it of on or the to b");
         Calls.due("stops are no terms", all.segment(0, 4), 1);
         Calls.ask(all, 0, "b");
@@ -263,6 +269,27 @@ public final class PromisesTest {
         Calls.due("level 1", engine.segment(1, 0), 1);
     }
 
+    private static void refreshKeepsManySegments() {
+        SearchEngine engine = new SearchEngine(0);
+        for (int i = 0; i < 255; i++) {
+            engine.add(i, 0, 0);
+            engine.refresh();
+        }
+        Calls.due("three of each level", engine.told(2), 12);
+        for (int s = 0; s < 12; s++) {
+            Calls.due("level of " + s, engine.segment(s, 0), 3 - s / 3);
+            Calls.due("documents of " + s, engine.segment(s, 1), 1L << (2 * (3 - s / 3)));
+        }
+        engine.open();
+        Calls.due("a view of all segments", engine.view(0, 0), 12);
+        Calls.due("a view of all documents", engine.view(0, 1), 255);
+        engine.add(255, 0, 0);
+        Calls.due("all are merged", engine.refresh(), 1);
+        Calls.due("to level 4", engine.segment(0, 0), 4);
+        Calls.due("merges", engine.told(6), 64 + 16 + 4 + 1);
+        Calls.due("the view stays", engine.view(0, 0), 12);
+    }
+
     // Promises 6 and 7
     private static void openAndClose() {
         SearchEngine engine = new SearchEngine(0);
@@ -359,6 +386,14 @@ public final class PromisesTest {
         many.open();
         // N 17, DF of few 5: 17/2 = 8, 17/4 = 4: RARE 2: 64*2/10 = 12. DF of all 17: RARE 1: 64/10 = 6.
         Calls.dueHits(many, "few all", "0=18 4=18 8=18 12=18 16=18");
+        SearchEngine most = new SearchEngine(0);
+        Calls.put(most, 0, "rarest");
+        for (int i = 1; i < 400; i++) {
+            most.add(i, 0, 0);
+        }
+        most.open();
+        // N 400, DF 1: 400/256 = 1: RARE 9: 64*9/9.
+        Calls.dueHits(most, "rarest", "0=64");
     }
 
     private static void beginnings() {
