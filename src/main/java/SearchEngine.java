@@ -983,12 +983,10 @@ public final class SearchEngine {
         }
 
         void weigh(View view) {
-            if (kind == WORDS) {
-                for (int f = 0; f < FIELDS; f++) {
-                    rareness[f] = 0;
-                    for (int i = 0; i < termCount; i++) {
-                        rareness[f] += view.rareness(f, terms[i]);
-                    }
+            for (int f = 0; kind == WORDS && f < FIELDS; f++) {
+                rareness[f] = 0;
+                for (int i = 0; isFor(f) && i < termCount; i++) {
+                    rareness[f] += view.rareness(f, terms[i]);
                 }
             }
         }
