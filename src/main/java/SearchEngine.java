@@ -752,7 +752,7 @@ public final class SearchEngine {
 
         /** The first position from .. to that has a term; NONE: there is none. */
         int positionOf(long term, int from, int to) {
-            for (int position = Math.max(from, 0); position <= to && position < terms.length; position++) {
+            for (int position = from < 0 ? 0 : from; position <= to && position < terms.length; position++) {
                 if (terms[position] == term) {
                     return position;
                 }
@@ -1096,7 +1096,7 @@ public final class SearchEngine {
         }
 
         /** The score of the ANY whose parts stand from .. to - 1. */
-        int scoreOfAny(int from, int to, Document document, int depth) {
+        private int scoreOfAny(int from, int to, Document document, int depth) {
             if (depth > MOST_NESTED) {
                 return NO_MATCH;
             }

@@ -7,9 +7,10 @@ final class Calls {
     static int wrong = 0;
 
     static void due(String call, long got, long want) {
+        Sentences.tests();
         if (got != want) {
             wrong++;
-            System.out.println(call + " answered " + got + ", due is " + want);
+            System.out.println(call + " answered " + got + ", due is " + want + Sentences.told());
         }
     }
 
@@ -93,9 +94,10 @@ final class Calls {
     }
 
     static void dueText(String call, String got, String want) {
+        Sentences.tests();
         if (!got.equals(want)) {
             wrong++;
-            System.out.println(call + " answered \"" + got + "\", due is \"" + want + "\"");
+            System.out.println(call + " answered \"" + got + "\", due is \"" + want + "\"" + Sentences.told());
         }
     }
 
@@ -113,6 +115,12 @@ final class Calls {
     static void dueHits(SearchEngine engine, String query, String want) {
         ask(engine, 0, query);
         dueText(query, hits(engine), want);
+    }
+
+    /** That a query is not WRONG, whatever it finds. */
+    static void dueRight(SearchEngine engine, String query) {
+        int answer = ask(engine, 0, query);
+        due("search of " + query, answer, Math.max(0, answer));
     }
 
     static void dueWrong(SearchEngine engine, String query, int place) {

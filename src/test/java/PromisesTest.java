@@ -11,6 +11,7 @@ public final class PromisesTest {
         stemsAndStops();
         feed();
         add();
+        addFull();
         addReplaces();
         addFillsTheBuffer();
         delete();
@@ -158,11 +159,15 @@ public final class PromisesTest {
         Calls.dueHits(engine, "[x 0 0]", "1=0 2=0 3=0 4=0");
         Calls.due("tokens", engine.hit(0, 4), 2);
         Calls.due("no tokens", engine.hit(1, 3), 0);
-        for (int i = 4; i < 400; i++) {
+    }
+
+    private static void addFull() {
+        SearchEngine engine = new SearchEngine(0);
+        for (int i = 0; i < 400; i++) {
             Calls.due("add", engine.add(i + 1, 0, 0), i + 1);
         }
         Calls.due("one more than 400", Calls.put(engine, 1, 0, 0, "x", ""), FULL);
-        Calls.due("too long before full", Calls.put(engine, 1, 0, 0, title + "x", ""), BAD);
+        Calls.due("too long before full", Calls.put(engine, 1, 0, 0, "t".repeat(101), ""), BAD);
         Calls.due("nothing was deleted", engine.delete(1), true);
         Calls.due("tape is used up", engine.feed(0, 0, 1), 1);
     }
@@ -271,23 +276,23 @@ public final class PromisesTest {
 
     private static void refreshKeepsManySegments() {
         SearchEngine engine = new SearchEngine(0);
-        for (int i = 0; i < 255; i++) {
+        for (int i = 0; i < 63; i++) {
             engine.add(i, 0, 0);
             engine.refresh();
         }
-        Calls.due("three of each level", engine.told(2), 12);
-        for (int s = 0; s < 12; s++) {
-            Calls.due("level of " + s, engine.segment(s, 0), 3 - s / 3);
-            Calls.due("documents of " + s, engine.segment(s, 1), 1L << (2 * (3 - s / 3)));
+        Calls.due("three of each level", engine.told(2), 9);
+        for (int s = 0; s < 9; s++) {
+            Calls.due("level of " + s, engine.segment(s, 0), 2 - s / 3);
+            Calls.due("documents of " + s, engine.segment(s, 1), 1L << (2 * (2 - s / 3)));
         }
         engine.open();
-        Calls.due("a view of all segments", engine.view(0, 0), 12);
-        Calls.due("a view of all documents", engine.view(0, 1), 255);
-        engine.add(255, 0, 0);
+        Calls.due("a view of all segments", engine.view(0, 0), 9);
+        Calls.due("a view of all documents", engine.view(0, 1), 63);
+        engine.add(63, 0, 0);
         Calls.due("all are merged", engine.refresh(), 1);
-        Calls.due("to level 4", engine.segment(0, 0), 4);
-        Calls.due("merges", engine.told(6), 64 + 16 + 4 + 1);
-        Calls.due("the view stays", engine.view(0, 0), 12);
+        Calls.due("to level 3", engine.segment(0, 0), 3);
+        Calls.due("merges", engine.told(6), 16 + 4 + 1);
+        Calls.due("the view stays", engine.view(0, 0), 9);
     }
 
     // Promises 6 and 7
