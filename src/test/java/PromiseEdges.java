@@ -499,7 +499,8 @@ final class PromiseEdges {
         SearchEngine engine = numbers(least, least + 1, -1, 0, 0, 5, 6, most - 1, most);
         int[][] of = {{0, 1, 2}, {-1, 1, 1}, {-1, 2, 3}, {1, 4, 0}, {1, 5, 1}, {1, 6, 2}, {5, 1, 1}, {6, 1, 1},
             {7, 10, 0}, {4, 1, 0}, {least, 1, 1}, {least, 2, 2}, {least, most, 2}, {least + 1, most, 2},
-            {least + 2, most, 3}, {0, most, 5}, {1, most, 4}, {most, 1, 1}, {most, 2, 1}, {most, most, 1}, {most - 1, 1, 1}, {most - 1, 2, 2},
+            {least + 2, most, 3}, {0, most, 5}, {1, most, 4}, {most, 1, 1}, {most, 2, 1}, {most, most, 1},
+            {most - 1, 1, 1}, {most - 1, 2, 2},
             {most - 1, most, 2}, {-1, most, 5}};
         for (int[] one : of) {
             Calls.due("bucket of x from " + one[0] + " of " + one[1], engine.bucket(0, one[0], one[1]), one[2]);
