@@ -446,7 +446,7 @@ public final class SearchEngine {
     }
 
     private void removeSegment(int place) {
-        for (int i = place; i + 1 < segmentCount; i++) {
+        for (int i = place; i >= 0 && i + 1 < segmentCount && i + 1 < MOST_SEGMENTS; i++) {
             segments[i] = segments[i + 1];
         }
         segmentCount = Math.max(0, segmentCount - 1);
@@ -620,6 +620,9 @@ public final class SearchEngine {
 
     /** Different terms, the least first, and how often each stood in the row that they come from. */
     private static final class Vocabulary {
+        // A row's length has 31 bits, so that many halvings leave none of it.
+        private static final int MOST_HALVINGS = 31;
+
         private final long[] terms;
         private final int[] counts;
 
@@ -688,7 +691,7 @@ public final class SearchEngine {
         private int placeOf(long least) {
             int from = 0;
             int to = terms.length;
-            while (from < to) {
+            for (int halving = 0; halving < MOST_HALVINGS && from < to; halving++) {
                 int middle = (from + to) >>> 1;
                 if (terms[middle] < least) {
                     from = middle + 1;
